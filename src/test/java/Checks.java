@@ -1,0 +1,73 @@
+/** What the project's tests share: a count of wrong answers, and texts for the tape. */
+final class Checks {
+    private static int made;
+    private static int wrong;
+
+    private Checks() {
+    }
+
+    static void due(String call, long got, long want) {
+        made++;
+        if (got != want) {
+            wrong++;
+            System.out.println(call + " answered " + got + ", due is " + want);
+        }
+    }
+
+    static void isSo(String what, boolean so) {
+        due(what, so ? 1 : 0, 1);
+    }
+
+    static void end(String name) {
+        System.out.println(name + ": " + made + " checks, " + wrong + " wrong");
+        if (wrong != 0 || made == 0) {
+            System.exit(1);
+        }
+    }
+
+    /** Puts a text of at most 400 bytes on an empty tape. */
+    static void write(CribbageRoom room, String text) {
+        byte[] bytes = new byte[text.length()];
+        for (int i = 0; i < bytes.length; i++) {
+            bytes[i] = (byte) text.charAt(i);
+        }
+        write(room, bytes);
+    }
+
+    static void write(CribbageRoom room, byte[] bytes) {
+        for (int from = 0; from < bytes.length; from += 20) {
+            room.feed(four(bytes, from), four(bytes, from + 4), four(bytes, from + 8), four(bytes, from + 12), four(bytes, from + 16));
+        }
+        room.end(bytes.length);
+    }
+
+    private static int four(byte[] bytes, int from) {
+        int number = 0;
+        for (int i = from; i < from + 4; i++) {
+            number = number << 8 | (i < bytes.length ? bytes[i] & 255 : ' ');
+        }
+        return number;
+    }
+
+    static int law(CribbageRoom room, String text) {
+        write(room, text);
+        return room.law();
+    }
+
+    static int orders(CribbageRoom room, String text) {
+        write(room, text);
+        return room.orders();
+    }
+
+    /** Makes a law and puts it in force. */
+    static void rule(CribbageRoom room, String text) {
+        due("law " + text + " in force", room.force(law(room, text)) >= -1 ? room.status() : -99, 0);
+    }
+
+    static void hold(CribbageRoom room, int... cards) {
+        room.drop();
+        for (int card : cards) {
+            room.hold(card);
+        }
+    }
+}
