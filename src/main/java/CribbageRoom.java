@@ -63,7 +63,6 @@ public final class CribbageRoom {
     private static final int DEAL = 10;
     private static final int MOOD = 15;
     private static final int PHASE = 16;
-    private static final int TURN = 20;
     private static final int PEGS = 21;
     private static final int CARD = 22;
     private static final int IF = 23;
@@ -714,7 +713,7 @@ public final class CribbageRoom {
     }
 
     private static boolean has(long cards, int card) {
-        return (cards & bit(card)) != 0;
+        return isCard(card) && (cards >> card & 1) == 1;
     }
 
     private static int lowest(long cards) {
@@ -1121,33 +1120,24 @@ public final class CribbageRoom {
             draft.clauseCount = 0;
             draft.changing = false;
             advance();
-            boolean well = readClauses();
+            boolean well = readClause();
+            for (int i = 0; i < TAPE && well && skipSign(';'); i++) {
+                well = readClause();
+            }
+            well = well && token == THE_END;
             fault = well ? NONE : place;
             length = 0;
             return well;
         }
 
-        private boolean readClauses() {
-            for (int i = 0; i < CLAUSES; i++) {
-                if (!readClause()) {
-                    return false;
-                }
-                if (token == THE_END) {
-                    return true;
-                }
-                if (!isSign(';')) {
-                    return false;
-                }
-                advance();
-            }
-            return false;
-        }
-
         private boolean readClause() {
-            if (token != WORD || value < (lawful ? VALUE : LAY) || value > (lawful ? BARS : DEAL)) {
+            if (draft.clauseCount >= CLAUSES || token != WORD) {
                 return false;
             }
             int kind = value;
+            if (kind < (lawful ? VALUE : LAY) || kind > (lawful ? BARS : DEAL)) {
+                return false;
+            }
             draft.mark(Text.KIND, kind);
             draft.mark(Text.TIMES, 1);
             advance();
@@ -1204,32 +1194,18 @@ public final class CribbageRoom {
             for (int i = 0; i < TAPE && skipWord(NOT); i++) {
                 turned = !turned;
             }
-            boolean well = isSign('(') ? readInner(depth) : readComparison(depth);
-            if (well && turned) {
+            boolean well;
+            if (isSign('(')) {
+                well = depth < MOST_BRACKETS && advance() && readTest(depth + 1) && skipSign(')');
+            } else {
+                well = readSum(depth);
+                int step = isSign('<') ? LESS : isSign('>') ? MORE : SAME;
+                well = well && (step != SAME || isSign('=')) && advance() && readSum(depth);
+                draft.put(step, 0);
+            }
+            if (turned) {
                 draft.put(TURN_ROUND, 0);
             }
-            return well;
-        }
-
-        private boolean readInner(int depth) {
-            if (depth >= MOST_BRACKETS) {
-                return false;
-            }
-            advance();
-            return readTest(depth + 1) && skipSign(')');
-        }
-
-        private boolean readComparison(int depth) {
-            if (!readSum(depth)) {
-                return false;
-            }
-            int step = isSign('<') ? LESS : isSign('>') ? MORE : SAME;
-            if (step == SAME && !isSign('=')) {
-                return false;
-            }
-            advance();
-            boolean well = readSum(depth);
-            draft.put(step, 0);
             return well;
         }
 
@@ -1257,11 +1233,7 @@ public final class CribbageRoom {
 
         private boolean readPart(int depth) {
             if (isSign('[')) {
-                if (depth >= MOST_BRACKETS) {
-                    return false;
-                }
-                advance();
-                return readSum(depth + 1) && skipSign(']');
+                return depth < MOST_BRACKETS && advance() && readSum(depth + 1) && skipSign(']');
             }
             if (parts >= MOST_PARTS) {
                 return false;
@@ -1271,30 +1243,32 @@ public final class CribbageRoom {
                 draft.put(PUT_NUMBER, value);
                 return advance();
             }
-            return token == WORD && readWord();
+            return token == WORD && (lawful ? readLawWord() : readOrdersWord());
         }
 
-        private boolean readWord() {
-            int word = value;
-            if (lawful) {
-                draft.changing = draft.changing || word == DEAL || word == MOOD;
-                return word >= DEAL && word <= MOOD && putWord(word - DEAL);
+        private boolean readLawWord() {
+            if (value < DEAL || value > MOOD) {
+                return false;
             }
-            if (word == PEGS) {
-                return readIndexed(OF_PEGS, 2);
-            }
-            if (word == CARD) {
-                return readIndexed(OF_CARD, 12);
-            }
-            return word >= PHASE && word <= TURN && putWord(word - PHASE);
+            draft.changing = draft.changing || value == DEAL || value == MOOD;
+            draft.put(PUT_WORD, value - DEAL);
+            return advance();
         }
 
-        private boolean readIndexed(int from, int many) {
-            advance();
-            return token == NUMBER && value < many && putWord(from + value);
-        }
-
-        private boolean putWord(int word) {
+        private boolean readOrdersWord() {
+            if (value < PHASE || value > CARD) {
+                return false;
+            }
+            int word = value - PHASE;
+            if (value == PEGS || value == CARD) {
+                int from = value == PEGS ? OF_PEGS : OF_CARD;
+                int many = value == PEGS ? PLAYERS : PLAYERS * 6;
+                advance();
+                if (token != NUMBER || value >= many) {
+                    return false;
+                }
+                word = from + value;
+            }
             draft.put(PUT_WORD, word);
             return advance();
         }

@@ -16,7 +16,7 @@ public final class ModelTest {
     }
 
     public static void main(String[] args) {
-        int runs = args.length > 0 ? Integer.parseInt(args[0]) : 60;
+        int runs = args.length > 0 ? Integer.parseInt(args[0]) : 40;
         long first = args.length > 1 ? Long.parseLong(args[1]) : 1;
         for (int i = 0; i < runs; i++) {
             new ModelTest(first + i).run(first + i);
