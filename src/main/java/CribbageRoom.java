@@ -631,9 +631,9 @@ public final class CribbageRoom {
 
     private int showAll(Table table) {
         int pone = 1 - table.dealer;
-        four.take(table.hands[pone], IN_HAND, worth);
+        four.take(table.handOf(pone), IN_HAND, worth);
         int poneHas = four.part(table.starter, 0);
-        four.take(table.hands[table.dealer], IN_HAND, worth);
+        four.take(table.handOf(table.dealer), IN_HAND, worth);
         int dealerHas = four.part(table.starter, 0);
         four.take(table.crib, IN_CRIB, worth);
         dealerHas += four.part(table.starter, 0);
@@ -647,7 +647,7 @@ public final class CribbageRoom {
         int pone = 1 - paper.dealer;
         for (int i = 0; i < 4; i++) {
             int player = i < 2 ? pone : paper.dealer;
-            paper.layAway(highest(paper.hands[player]), player, worth);
+            paper.layAway(highest(paper.handOf(player)), player, worth);
         }
         for (int i = 0; i < 8 && paper.turn != NONE; i++) {
             paper.putDown(lowest(paper.playable(paper.turn, worth)), worth);
@@ -771,6 +771,10 @@ public final class CribbageRoom {
             number = other.number;
         }
 
+        long handOf(int player) {
+            return isPlayer(player) ? hands[player] : 0;
+        }
+
         int placeOf(int card) {
             if (has(hands[0], card)) {
                 return 0;
@@ -802,10 +806,11 @@ public final class CribbageRoom {
                 s = (s * 1103 + 12345) % 1000003;
                 int card = cardAt(left, s % (CARDS - i));
                 left &= ~bit(card);
+                int to = i % 2 == 0 ? 1 - dealer : dealer;
                 if (i == 12) {
                     starter = card;
-                } else {
-                    hands[i % 2 == 0 ? 1 - dealer : dealer] |= bit(card);
+                } else if (isPlayer(to)) {
+                    hands[to] |= bit(card);
                 }
             }
             clearPlay();
@@ -845,7 +850,7 @@ public final class CribbageRoom {
 
         long playable(int player, Worth worth) {
             long can = 0;
-            long left = isPlayer(player) ? hands[player] & ~gone & ~worth.barred : 0;
+            long left = handOf(player) & ~gone & ~worth.barred;
             for (int i = 0; i < 6 && left != 0; i++) {
                 int card = lowest(left);
                 left &= left - 1;

@@ -78,9 +78,9 @@ public final class ModelTest {
         int kind = random.nextInt(100);
         if (kind < 45) {
             tableStep();
-        } else if (kind < 60) {
+        } else if (kind < 65) {
             textStep();
-        } else if (kind < 75) {
+        } else if (kind < 71) {
             holdStep();
         } else if (kind < 92) {
             paperStep();
@@ -134,17 +134,19 @@ public final class ModelTest {
     private void textStep() {
         boolean law = random.nextInt(3) == 0;
         int kind = random.nextInt(12);
-        if (kind == 0) {
-            byte[] bytes = new byte[random.nextInt(12)];
+        if (kind < 3) {
+            // Four or six that lie near one another mostly, so that something counts.
+            int first = random.nextInt(13);
+            byte[] bytes = new byte[kind == 0 ? random.nextInt(12) : kind == 1 ? 4 : 6];
             for (int i = 0; i < bytes.length; i++) {
-                bytes[i] = (byte) about(0, 51);
+                bytes[i] = (byte) (kind == 0 ? about(0, 51) : (4 * first + 5 * i + 7 * random.nextInt(3)) % 52);
             }
             feed(bytes);
             same("row()", room.row(), model.row());
             same("jokers()", room.jokers(), model.jokers());
             return;
         }
-        if (kind == 1 || kind == 2 || kind == 3) {
+        if (kind < 5) {
             int number = about(-1, 5);
             same("force(" + number + ")", room.force(number), model.force(number));
             return;

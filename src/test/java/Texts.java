@@ -108,6 +108,21 @@ final class Texts {
         };
     }
 
+    /** Orders that mostly can be, from wherever the table stands. */
+    private String likely() {
+        String[] clauses = {"deal " + random.nextInt(1000) + "*[1+count] if phase%3=0", "lay card " + random.nextInt(4) + " by 0 times 3 if card 4>0-1",
+            "lay card " + (6 + random.nextInt(4)) + " by 1 times " + (2 + random.nextInt(3)) + " if card 10>0", "play card 0 by 0 if turn=0",
+            "play card 6 by 1 if turn=1", "play card 1 by turn if turn=0", "play card 7 by turn if turn=1", "play card 2 by 0 if turn=0 and latest<9",
+            "play card 8 by 1 if turn=1 or latest>40", "show if phase=2 and turn<0"};
+        int from = random.nextInt(8);
+        int to = from + 1 + random.nextInt(clauses.length - from);
+        String text = clauses[from];
+        for (int i = from + 1; i < to; i++) {
+            text += ";" + clauses[i];
+        }
+        return text;
+    }
+
     /** Texts at the limits of clauses, parts and brackets, and one beyond. */
     private String limit(boolean law) {
         int beyond = random.nextInt(3) - 1;
@@ -123,6 +138,9 @@ final class Texts {
     String text(boolean law) {
         if (random.nextInt(12) == 0) {
             return limit(law);
+        }
+        if (!law && random.nextInt(2) == 0) {
+            return likely();
         }
         String text = law ? lawClause() : orderClause();
         while (random.nextInt(4) != 0) {
