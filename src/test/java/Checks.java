@@ -64,6 +64,27 @@ final class Checks {
         due("law " + text + " in force", room.force(law(room, text)) >= -1 ? room.status() : -99, 0);
     }
 
+    /** Seed 5: PLAYER 0 deals; its hand is 0 7 8 10 13 21, the other one's 9 15 23 24 45 46, the starter 14. */
+    static CribbageRoom dealt() {
+        CribbageRoom room = new CribbageRoom();
+        room.deal(5);
+        return room;
+    }
+
+    /** What is dealt by seed 5 laid away: 0 and 21, 45 and 46. */
+    static void layAll(CribbageRoom room) {
+        room.lay(45, 1);
+        room.lay(46, 1);
+        room.lay(0, 0);
+        room.lay(21, 0);
+    }
+
+    static CribbageRoom laid() {
+        CribbageRoom room = dealt();
+        layAll(room);
+        return room;
+    }
+
     static void hold(CribbageRoom room, int... cards) {
         room.drop();
         for (int card : cards) {

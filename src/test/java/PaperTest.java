@@ -157,7 +157,9 @@ public final class PaperTest {
         Checks.hold(x, 8, 9, 10, 40, 41);
         Checks.due("three of them held", x.cribOf(0, 4), 3 * 16);
         held();
-        byHand();
+        byHand(17);
+        byHand(5);
+        byHand(31);
     }
 
     private static void held() {
@@ -171,15 +173,13 @@ public final class PaperTest {
     }
 
     /** All that can come, one by one, by counted(). */
-    private static void byHand() {
-        CribbageRoom x = new CribbageRoom();
+    private static void byHand(int target) {
+        CribbageRoom x = holding(2, 3, 11, 12, 30, 44);
         CribbageRoom y = new CribbageRoom();
-        int[] held = {2, 3, 11, 12, 30, 44};
         for (CribbageRoom z : new CribbageRoom[] {x, y}) {
             Checks.rule(z, "value rank + 1; fifteen size; pair rank; run 7 if size = 3; flush suit + 9; nob suit * 3; value 4 if suit = 2");
-            z.terms(3, 17);
+            z.terms(3, target);
         }
-        Checks.hold(x, held);
         long sum = 0;
         for (int a = 0; a < 52; a++) {
             for (int b = a + 1; b < 52; b++) {
@@ -192,7 +192,7 @@ public final class PaperTest {
                 }
             }
         }
-        Checks.due("one by one", x.cribOf(40, 36), sum);
+        Checks.due("one by one, TARGET " + target, x.cribOf(40, 36), sum);
     }
 
     private static void promise23Refused() {
@@ -231,18 +231,8 @@ public final class PaperTest {
         Checks.due("none held", x.bestStarter(0), -1);
     }
 
-    private static CribbageRoom laid() {
-        CribbageRoom x = new CribbageRoom();
-        x.deal(5);
-        x.lay(45, 1);
-        x.lay(46, 1);
-        x.lay(0, 0);
-        x.lay(21, 0);
-        return x;
-    }
-
     private static void promise26ToEnd() {
-        CribbageRoom x = laid();
+        CribbageRoom x = Checks.laid();
         int ahead = x.toEnd(0);
         // Both play as toEnd() tells: it comes to what it told first.
         int[] pegs = new int[2];
@@ -253,18 +243,18 @@ public final class PaperTest {
         }
         Checks.due("in the end", pegs[1] - pegs[0], ahead);
         Checks.due("nobody's turn", x.toEnd(0), -1000);
-        CribbageRoom last = laid();
+        CribbageRoom last = Checks.laid();
         int[] plays = {24, 13, 15, 8, 9, 10, 23};
         for (int i = 0; i < 7; i++) {
             last.play(plays[i], 1 - i % 2);
         }
         Checks.due("one card left", last.toEnd(0), 1);
         Checks.due("that one", last.toEnd(1), 7);
-        CribbageRoom even = laid();
+        CribbageRoom even = Checks.laid();
         Checks.rule(even, "fifteen 0; pair 0; run 0; value 31");
         Checks.due("each of eight counts 2", even.toEnd(0), 0);
         Checks.due("the lowest", even.toEnd(1), 9);
-        CribbageRoom rich = laid();
+        CribbageRoom rich = Checks.laid();
         Checks.rule(rich, "value 1; fifteen 0; run 0; pair 99 if rank = 2; pair 0 if rank > 2; bars if not rank = 2 and not rank = 6");
         rich.terms(3, 31);
         // PONE has 9 and 24 to play, DEALER 8 and 10: 24 first, then 8, 9 (99), 10 (297, and 1 for the last).
@@ -275,7 +265,7 @@ public final class PaperTest {
     private static void promise26NoEnd() {
         CribbageRoom x = new CribbageRoom();
         Checks.due("phase 0", x.toEnd(0), -1000);
-        CribbageRoom y = laid();
+        CribbageRoom y = Checks.laid();
         Checks.due("toEnd(2)", y.toEnd(2), -1000);
         Checks.due("toEnd(-1)", y.toEnd(-1), -1000);
         Checks.rule(y, "bars");

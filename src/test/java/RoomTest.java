@@ -89,12 +89,7 @@ public final class RoomTest {
     }
 
     private static CribbageRoom full() {
-        CribbageRoom x = new CribbageRoom();
-        x.deal(5);
-        x.lay(45, 1);
-        x.lay(46, 1);
-        x.lay(0, 0);
-        x.lay(21, 0);
+        CribbageRoom x = Checks.laid();
         x.play(24, 1);
         x.hold(9);
         x.hold(10);

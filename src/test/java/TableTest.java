@@ -20,26 +20,6 @@ public final class TableTest {
     private static final int[] PONE_PLAYS = {24, 15, 9, 23};
     private static final int[] DEALER_PLAYS = {13, 8, 10, 7};
 
-    /** Seed 5: PLAYER 0 deals; its hand is 0 7 8 10 13 21, the other one's 9 15 23 24 45 46, the starter 14. */
-    private static CribbageRoom dealt() {
-        CribbageRoom x = new CribbageRoom();
-        x.deal(5);
-        return x;
-    }
-
-    private static CribbageRoom laid() {
-        CribbageRoom x = dealt();
-        layAll(x);
-        return x;
-    }
-
-    private static void layAll(CribbageRoom x) {
-        x.lay(45, 1);
-        x.lay(46, 1);
-        x.lay(0, 0);
-        x.lay(21, 0);
-    }
-
     private static void playAll(CribbageRoom x) {
         for (int i = 0; i < 4; i++) {
             x.play(PONE_PLAYS[i], 1);
@@ -69,7 +49,7 @@ public final class TableTest {
     }
 
     private static void promise2Card() {
-        CribbageRoom x = laid();
+        CribbageRoom x = Checks.laid();
         Checks.due("value of an ace", x.card(3, 0), 1);
         Checks.due("value of a ten", x.card(36, 0), 10);
         Checks.due("value of a king", x.card(51, 0), 10);
@@ -102,13 +82,13 @@ public final class TableTest {
     }
 
     private static void promise3Hand() {
-        CribbageRoom x = dealt();
+        CribbageRoom x = Checks.dealt();
         int[] cards = {0, 7, 8, 10, 13, 21};
         for (int k = 0; k < 6; k++) {
             Checks.due("card " + k + " of hand 0", x.hand(0, 1 + k), cards[k]);
         }
         Checks.due("six", x.hand(1, 0), 6);
-        layAll(x);
+        Checks.layAll(x);
         Checks.due("four", x.hand(1, 0), 4);
         Checks.due("no fifth", x.hand(1, 5), -1);
         x.play(24, 1);
@@ -156,7 +136,7 @@ public final class TableTest {
         Checks.due("turn", x.count(6), -1);
         Checks.due("deal in phase 1", x.deal(5), -3);
         Checks.due("a bad seed is refused first", x.deal(-1), -1);
-        layAll(x);
+        Checks.layAll(x);
         Checks.due("deal in phase 2", x.deal(5), -3);
         playAll(x);
         Checks.due("LAST stays", x.count(7), 0);
@@ -203,9 +183,9 @@ public final class TableTest {
         Checks.due("PONE's turn", x.count(6), 1);
         Checks.due("lay in phase 2", x.lay(7, 0), -3);
         heels();
-        CribbageRoom barredPone = dealt();
+        CribbageRoom barredPone = Checks.dealt();
         Checks.rule(barredPone, "bars if rank = 2 or rank = 3 or rank = 5 or rank = 6");
-        layAll(barredPone);
+        Checks.layAll(barredPone);
         Checks.due("all of PONE's are barred: DEALER's turn", barredPone.count(6), 0);
     }
 
@@ -228,7 +208,7 @@ public final class TableTest {
     }
 
     private static void promise16Play() {
-        CribbageRoom x = laid();
+        CribbageRoom x = Checks.laid();
         Checks.due("play(-1, 1)", x.play(-1, 1), -1);
         Checks.due("play(52, 1)", x.play(52, 1), -1);
         Checks.due("play(24, 2)", x.play(24, 2), -1);
@@ -254,30 +234,30 @@ public final class TableTest {
     }
 
     private static void promise16PlayByLaw() {
-        CribbageRoom x = laid();
+        CribbageRoom x = Checks.laid();
         // 24, 13, 15: count is 7 and 4 and 4; by these rules 15 + size 3 counts 30 + crib, a pair of fours 50.
         Checks.rule(x, "fifteen size * 10 + crib; pair rank + 47 + size - 2 if crib = 0 - 1; pair 1 if crib > 0 - 1; run size * 20 + rank");
         x.play(24, 1);
         x.play(13, 0);
         Checks.due("fifteen of three and a pair by the law", x.play(15, 1), 29 + 50);
-        CribbageRoom run = laid();
+        CribbageRoom run = Checks.laid();
         Checks.rule(run, "run size * 20 + rank");
         // 9, 13 and 7 are a three, a four and a two.
         run.play(9, 1);
         run.play(13, 0);
         run.play(24, 1);
         Checks.due("no run by 3 4 7 2", run.play(7, 0), 0);
-        CribbageRoom order = laid();
+        CribbageRoom order = Checks.laid();
         Checks.rule(order, "run size * 20 + rank");
         order.play(15, 1);
         order.play(7, 0);
         Checks.due("a run of 4 2 3", order.play(9, 1), 59);
         Checks.due("2 3 3 is none, the pair is", order.play(8, 0), 2);
-        CribbageRoom target = laid();
+        CribbageRoom target = Checks.laid();
         target.terms(3, 11);
         target.play(24, 1);
         Checks.due("TARGET is 11", target.play(13, 0), 2);
-        CribbageRoom thirtyOne = laid();
+        CribbageRoom thirtyOne = Checks.laid();
         Checks.rule(thirtyOne, "value 31; fifteen 50");
         Checks.due("31 at once, no more for LAST", thirtyOne.play(24, 1), 2);
         Checks.due("count is 0", thirtyOne.count(4), 0);
@@ -286,7 +266,7 @@ public final class TableTest {
     }
 
     private static void promise16Barred() {
-        CribbageRoom x = laid();
+        CribbageRoom x = Checks.laid();
         Checks.due("a turn", x.count(6), 1);
         Checks.rule(x, "bars if rank = 6");
         Checks.due("a barred card", x.play(24, 1), -3);
@@ -307,7 +287,7 @@ public final class TableTest {
         Checks.due("show in phase 0", x.show(), -3);
         x.deal(5);
         Checks.due("show in phase 1", x.show(), -3);
-        layAll(x);
+        Checks.layAll(x);
         Checks.due("show in a turn", x.show(), -3);
         playAll(x);
         // 9 15 23 24 with 14: a pair, 3 4 4 6 7: 4+4+7 15 = 4; 7 8 10 13 with 14 is 2 3 3 4 4: four runs and two pairs 16.
@@ -317,9 +297,9 @@ public final class TableTest {
         Checks.due("DEALER", x.hand(0, 7), 7 + 16 + 6);
         Checks.due("phase", x.count(0), 3);
         Checks.due("again", x.show(), -3);
-        CribbageRoom bars = dealt();
+        CribbageRoom bars = Checks.dealt();
         Checks.rule(bars, "bars; nob 99; pair 3 if crib = 1; pair 0 if crib = 0; fifteen 0; run 0");
-        layAll(bars);
+        Checks.layAll(bars);
         Checks.due("nobody can play", bars.count(6), -1);
         Checks.due("the pair in the crib alone", bars.show(), 3);
         Checks.due("it is the dealer's", bars.hand(0, 7), 3);
@@ -369,7 +349,7 @@ public final class TableTest {
         CribbageRoom x = new CribbageRoom();
         Checks.due("nothing", x.undo(), -3);
         x.deal(5);
-        layAll(x);
+        Checks.layAll(x);
         playAll(x);
         x.show();
         Checks.due("fourteen", x.count(11), 14);
@@ -401,7 +381,7 @@ public final class TableTest {
     }
 
     private static void sixteen() {
-        CribbageRoom x = laid();
+        CribbageRoom x = Checks.laid();
         playAll(x);
         x.show();
         x.deal(9);
