@@ -21,6 +21,7 @@ public final class RoomTest {
         Checks.due("rubbers(5, 1)", x.rubbers(5, 1), 23);
         Checks.due("status", x.status(), 0);
         Checks.due("on paper", x.count(0) + x.count(19) + x.hand(0, 7) + x.count(11), 0);
+        Checks.isSo("rubbers(0, 20)", x.rubbers(0, 20) > 0);
         Checks.isSo("rubbers(1000000, 20)", x.rubbers(1000000, 20) > 0);
         x.terms(0, 999);
         Checks.due("no deal can be", x.rubbers(5, 20), 0);

@@ -253,6 +253,9 @@ public final class TableTest {
         order.play(7, 0);
         Checks.due("a run of 4 2 3", order.play(9, 1), 59);
         Checks.due("2 3 3 is none, the pair is", order.play(8, 0), 2);
+        order.undo();
+        Checks.rule(order, "pair rank * 10 + crib + suit");
+        Checks.due("a pair of rank 2", order.play(8, 0), 18);
         CribbageRoom target = Checks.laid();
         target.terms(3, 11);
         target.play(24, 1);
