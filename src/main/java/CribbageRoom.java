@@ -23,6 +23,8 @@ public final class CribbageRoom {
     private static final int MOST_COUNT = 31;
     private static final int SEEDS = 1000000;
     private static final int NO_END = -1000;
+    // Far below what any play can come to.
+    private static final int NO_PLAY = -1000000;
     private static final long ALL_CARDS = (1L << CARDS) - 1;
 
     private static final int PHASE_NOTHING = 0;
@@ -1972,7 +1974,7 @@ public final class CribbageRoom {
             Table table = tables[depth];
             Table next = tables[depth + 1];
             long left = table.playable(table.turn, worth);
-            int most = Integer.MIN_VALUE;
+            int most = NO_PLAY;
             for (int i = 0; i < 6 && left != 0; i++) {
                 int tried = lowest(left);
                 left &= left - 1;

@@ -49,6 +49,16 @@ final class Checks {
         return number;
     }
 
+    /** A row of bytes, behind what the tape has. */
+    static int row(CribbageRoom room, int... bytes) {
+        byte[] row = new byte[bytes.length];
+        for (int i = 0; i < bytes.length; i++) {
+            row[i] = (byte) bytes[i];
+        }
+        write(room, row);
+        return room.row();
+    }
+
     static int law(CribbageRoom room, String text) {
         write(room, text);
         return room.law();

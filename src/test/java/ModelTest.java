@@ -1,3 +1,4 @@
+import java.nio.charset.StandardCharsets;
 import java.util.Random;
 
 /** Runs of calls by chance: the class answers as the plain model does, and stands as it does behind each. */
@@ -7,7 +8,8 @@ public final class ModelTest {
     private final CribbageRoom room = new CribbageRoom();
     private final Model model = new Model();
     private final StringBuilder log = new StringBuilder();
-    private int dear = 2;
+    private int dear;
+    private int used;
     private boolean well = true;
 
     private ModelTest(long seed) {
@@ -16,7 +18,7 @@ public final class ModelTest {
     }
 
     public static void main(String[] args) {
-        int runs = args.length > 0 ? Integer.parseInt(args[0]) : 40;
+        int runs = args.length > 0 ? Integer.parseInt(args[0]) : 400;
         long first = args.length > 1 ? Long.parseLong(args[1]) : 1;
         for (int i = 0; i < runs; i++) {
             new ModelTest(first + i).run(first + i);
@@ -25,10 +27,19 @@ public final class ModelTest {
     }
 
     private void run(long seed) {
-        for (int i = 0; i < 400 && well; i++) {
-            step();
-            compareState();
+        dear = seed % 8 == 0 ? 1 : 0;
+        if (seed % 2 == 0) {
+            feed(("deal " + random.nextInt(1000) + "; lay card 0 by 0 times 2; lay card 6 by 1 times 2").getBytes(StandardCharsets.US_ASCII));
+            same("orders()", room.orders(), model.orders());
         }
+        // An object is used for 512 calls: a step takes 25 at most, a look at the state 51.
+        while (used < 430 && well) {
+            step();
+            if (used < 400 && random.nextInt(40) == 0) {
+                compareState();
+            }
+        }
+        compareState();
         if (!well) {
             System.out.println("seed " + seed + "\n" + log);
         }
@@ -36,6 +47,7 @@ public final class ModelTest {
 
     private void same(String call, long got, long want) {
         log.append(call).append(" -> ").append(want).append('\n');
+        used++;
         Checks.due(call, got, want);
         well = well && got == want;
     }
@@ -55,6 +67,7 @@ public final class ModelTest {
     }
 
     private void compareState() {
+        used += 51;
         for (int what = -1; what <= 23; what++) {
             if (room.count(what) != model.count(what)) {
                 same("count(" + what + ")", room.count(what), model.count(what));
@@ -91,8 +104,8 @@ public final class ModelTest {
 
     /** Mostly what can be done now. */
     private void tableStep() {
-        int phase = room.count(0);
-        int turn = room.count(6);
+        int phase = model.count(0);
+        int turn = model.count(6);
         int kind = random.nextInt(20);
         if (kind == 0) {
             same("undo()", room.undo(), model.undo());
@@ -109,12 +122,12 @@ public final class ModelTest {
             same("deal(" + seed + ")", room.deal(seed), model.deal(seed));
         } else if (phase == 1) {
             int player = random.nextInt(2);
-            int card = room.hand(player, 1 + random.nextInt(6));
+            int card = model.hand(player, 1 + random.nextInt(6));
             same("lay(" + card + ", " + player + ")", room.lay(card, player), model.lay(card, player));
         } else if (turn == -1) {
             same("show()", room.show(), model.show());
         } else {
-            int card = room.hand(turn, 1 + random.nextInt(4));
+            int card = model.hand(turn, 1 + random.nextInt(4));
             same("play(" + card + ", " + turn + ")", room.play(card, turn), model.play(card, turn));
         }
     }

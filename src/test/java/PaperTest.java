@@ -157,9 +157,6 @@ public final class PaperTest {
         Checks.hold(x, 8, 9, 10, 40, 41);
         Checks.due("three of them held", x.cribOf(0, 4), 3 * 16);
         held();
-        byHand(17);
-        byHand(5);
-        byHand(31);
     }
 
     private static void held() {
@@ -170,29 +167,6 @@ public final class PaperTest {
         Checks.rule(x, "flush 1; " + NOTHING.replace("flush 0", "flush 0 if crib = 0"));
         Checks.due("as a crib", x.cribOf(0, 4), 3 * 84);
         Checks.due("in either order", x.cribOf(4, 0), 3 * 84);
-    }
-
-    /** All that can come, one by one, by counted(). */
-    private static void byHand(int target) {
-        CribbageRoom x = holding(2, 3, 11, 12, 30, 44);
-        CribbageRoom y = new CribbageRoom();
-        for (CribbageRoom z : new CribbageRoom[] {x, y}) {
-            Checks.rule(z, "value rank + 1; fifteen size; pair rank; run 7 if size = 3; flush suit + 9; nob suit * 3; value 4 if suit = 2");
-            z.terms(3, target);
-        }
-        long sum = 0;
-        for (int a = 0; a < 52; a++) {
-            for (int b = a + 1; b < 52; b++) {
-                if (x.card(a, 4) == 1 || x.card(b, 4) == 1 || a == 40 || b == 40 || a == 36 || b == 36) {
-                    continue;
-                }
-                Checks.hold(y, 40, 36, a, b);
-                for (int starter = 0; starter < 52; starter++) {
-                    sum += x.card(starter, 4) == 1 ? 0 : Math.max(0, y.counted(starter, 1, 0));
-                }
-            }
-        }
-        Checks.due("one by one, TARGET " + target, x.cribOf(40, 36), sum);
     }
 
     private static void promise23Refused() {

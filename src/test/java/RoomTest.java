@@ -35,35 +35,44 @@ public final class RoomTest {
         Checks.due("the law is asked anew each deal", x.rubbers(5, 1), 1);
     }
 
-    /** The same by calls: the two highest laid, the lowest played. */
+    private static final String RULE = "pair deal; value 11 if rank = 12; bars if rank = 0 and suit = 1; run size * 2 if crib = 0 - 1";
+
+    /** The same by calls: the two highest laid, the lowest played; each deal in a room of its own, in which 0 is DEALER. */
     private static void promise33ByHand() {
-        CribbageRoom x = new CribbageRoom();
-        Checks.rule(x, "pair deal; value 11 if rank = 12; bars if rank = 0 and suit = 1; run size * 2 if crib = 0 - 1");
         CribbageRoom paper = new CribbageRoom();
-        paper.force(Checks.law(paper, "pair deal; value 11 if rank = 12; bars if rank = 0 and suit = 1; run size * 2 if crib = 0 - 1"));
-        x.terms(3, 14);
+        Checks.rule(paper, RULE);
         paper.terms(3, 14);
+        int[] pegs = new int[2];
         int s = 77;
         for (int i = 0; i < 20; i++) {
-            x.deal(s);
+            CribbageRoom x = new CribbageRoom();
+            Checks.rule(x, RULE);
+            x.terms(3, 14);
+            x.terms(0, i);
+            oneByHand(x, s);
             for (int k = 0; k < 13; k++) {
                 s = (int) ((s * 1103L + 12345) % 1000003);
             }
-            int pone = 1 - x.count(1);
-            x.lay(x.hand(pone, 6), pone);
-            x.lay(x.hand(pone, 5), pone);
-            x.lay(x.hand(1 - pone, 6), 1 - pone);
-            x.lay(x.hand(1 - pone, 5), 1 - pone);
-            for (int n = 0; n < 32 && x.count(6) >= 0; n++) {
-                x.play(x.hand(x.count(6), 1 + n % 4), x.count(6));
-                // From the lowest again behind a play.
-                n = x.status() == 0 ? -1 : n;
-            }
-            x.show();
-            Checks.due("rubbers(77, " + (i + 1) + ")", paper.rubbers(77, i + 1), x.hand(0, 7) + x.hand(1, 7));
-            Checks.due("drawn(0)", paper.drawn(0), x.hand(0, 7));
-            Checks.due("drawn(1)", paper.drawn(1), x.hand(1, 7));
+            pegs[i % 2] += x.hand(0, 7);
+            pegs[1 - i % 2] += x.hand(1, 7);
+            Checks.due("rubbers(77, " + (i + 1) + ")", paper.rubbers(77, i + 1), pegs[0] + pegs[1]);
+            Checks.due("drawn(0)", paper.drawn(0), pegs[0]);
+            Checks.due("drawn(1)", paper.drawn(1), pegs[1]);
         }
+    }
+
+    private static void oneByHand(CribbageRoom x, int seed) {
+        x.deal(seed);
+        x.lay(x.hand(1, 6), 1);
+        x.lay(x.hand(1, 5), 1);
+        x.lay(x.hand(0, 6), 0);
+        x.lay(x.hand(0, 5), 0);
+        for (int n = 0; n < 32 && x.count(6) >= 0; n++) {
+            x.play(x.hand(x.count(6), 1 + n % 4), x.count(6));
+            // From the lowest again behind a play.
+            n = x.status() == 0 ? -1 : n;
+        }
+        x.show();
     }
 
     private static void promise34Drawn() {

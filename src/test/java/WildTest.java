@@ -4,6 +4,8 @@ import java.util.Random;
 public final class WildTest {
     private static final int[] EDGES = {Integer.MIN_VALUE, Integer.MIN_VALUE + 1, -1000001, -1001, -53, -7, -2, -1, 0, 1, 2, 3, 4, 5, 6, 7, 8, 9,
         10, 11, 12, 15, 19, 20, 21, 31, 32, 51, 52, 53, 99, 100, 399, 400, 401, 998, 999, 1000, 9999, 1000000, 1000001, Integer.MAX_VALUE};
+    private static final int TEXT_OF_LAW = 37;
+    private static final int TEXT_OF_ORDERS = 38;
     private final Random random;
     private final Texts texts;
     private final CribbageRoom x = new CribbageRoom();
@@ -14,12 +16,15 @@ public final class WildTest {
     }
 
     public static void main(String[] args) {
-        for (int seed = 0; seed < 150; seed++) {
+        for (int seed = 0; seed < 400; seed++) {
             WildTest run = new WildTest(seed);
             String thrown = "";
             try {
-                for (int i = 0; i < 512; i++) {
-                    run.call(random(run), i);
+                // An object is used for 512 calls; a text takes 22 at most.
+                for (int calls = 0; calls < 490; calls++) {
+                    int kind = run.random.nextInt(42);
+                    run.call(kind, calls);
+                    calls += kind == TEXT_OF_LAW || kind == TEXT_OF_ORDERS ? 21 : kind > TEXT_OF_ORDERS ? 1 : 0;
                 }
             } catch (RuntimeException | StackOverflowError e) {
                 thrown = e.toString();
@@ -28,10 +33,6 @@ public final class WildTest {
             Checks.isSo("seed " + seed + " throws nothing " + thrown, thrown.isEmpty());
         }
         Checks.end("WildTest");
-    }
-
-    private static int random(WildTest run) {
-        return run.random.nextInt(42);
     }
 
     private int n() {
@@ -78,8 +79,8 @@ public final class WildTest {
             case 34 -> x.back(n());
             case 35 -> x.count(n());
             case 36 -> x.status();
-            case 37 -> Checks.law(x, texts.text(true));
-            case 38 -> Checks.orders(x, texts.text(false));
+            case TEXT_OF_LAW -> Checks.law(x, texts.text(true));
+            case TEXT_OF_ORDERS -> Checks.orders(x, texts.text(false));
             case 39 -> x.lay(x.hand(i % 2, 1 + i % 6), i % 2);
             case 40 -> x.play(x.hand(i % 2, 1 + i % 4), i % 2);
             default -> x.end(0);
