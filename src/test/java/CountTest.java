@@ -18,10 +18,12 @@ public final class CountTest {
         flushesOfFive();
         nobs();
         keptOfSix();
+        keptEachOfFifteen();
         keptTheFirstTwo();
         cribOfNothingHeld();
         cribOfWithHeld();
         byStartersBounds();
+        startersOfAHand();
         bestStarterTheLowest();
         toEndOfMinus1000();
         toEndOfOneCard();
@@ -206,6 +208,13 @@ public final class CountTest {
         CribbageRoom x = byLaw("value 31", 0, 5, 10, 15);
         x.terms(3, 31);
         Checks.due("31 by one is no set", x.counted(50, 0, 1), 0);
+        // A starter of 30 with an ace, then an ace as starter with one of 30.
+        CribbageRoom w = byLaw("value 30 if rank=12; value 9 if rank=6", 0, 24, 25, 26);
+        w.terms(3, 31);
+        Checks.due("30 as starter and 1", w.counted(51, 0, 1), 2);
+        CribbageRoom v = byLaw("value 30 if rank=12; value 9 if rank=6", 51, 24, 25, 26);
+        v.terms(3, 31);
+        Checks.due("30 and 1 as starter", v.counted(0, 0, 1), 2);
         CribbageRoom y = byLaw("value 1", 0, 5, 10, 15);
         y.terms(3, 5);
         Checks.due("five ones", y.counted(50, 0, 1), 2);
@@ -248,6 +257,11 @@ public final class CountTest {
         runs(12, 9, 0, 1, 5, 10);
         runs(9, 2, 0, 1, 5, 10);
         runs(9, 6, 0, 4, 5, 10);
+        // A pair that is none of the run's RANKS, below it, above it.
+        runs(3, 28, 0, 1, 20, 24);
+        runs(3, 51, 48, 20, 24, 28);
+        runs(3, 0, 48, 49, 4, 8);
+        runs(3, 40, 1, 36, 45, 2);
         // A king and an ace are no neighbours; a queen, a king and a jack are.
         runs(0, 48, 0, 5, 44, 30);
         runs(3, 48, 0, 41, 46, 5);
@@ -313,6 +327,19 @@ public final class CountTest {
             Checks.due("kept(0)", x.kept(0), most);
             Checks.due("kept(1)", x.kept(1), best[0]);
             Checks.due("kept(2)", x.kept(2), best[1]);
+        }
+    }
+
+    /** Each of the fifteen is the best by some law: all but two RANKS count by a pair with their starters. */
+    private static void keptEachOfFifteen() {
+        int[] six = {0, 9, 18, 27, 32, 49};
+        for (int i = 0; i < 6; i++) {
+            for (int j = i + 1; j < 6; j++) {
+                CribbageRoom x = byLaw(NOTHING + "; pair 2; pair 1 if rank=" + six[i] / 4 + " or rank=" + six[j] / 4, six);
+                Checks.due("four RANKS by three cards, 2 each", x.kept(0), 24);
+                Checks.due("laid away, the lower", x.kept(1), six[i]);
+                Checks.due("laid away, the higher", x.kept(2), six[j]);
+            }
         }
     }
 
@@ -404,6 +431,10 @@ public final class CountTest {
         cribByHand(RICH, 15, 0, 1);
         cribByHand("value 1", 5, 2, 6);
         cribByHand("value 31", 31, 2, 6);
+        for (String law : new String[] {"fifteen 5 if crib=1", "pair 6 if crib=1", "run 7 if crib=1", "flush 8 if crib=1; flush 9 if crib=0", "nob 9 if crib=1"}) {
+            cribByHand(law, 15, 0, 8);
+            cribByHand(law, 15, 40, 42);
+        }
     }
 
     private static void cribOfWithHeld() {
@@ -445,6 +476,20 @@ public final class CountTest {
         Checks.due("298: a nob, a jack, a five", z.byStarters(298), 12 + 3);
         Checks.due("594 and a nob: the five of suit 3", z.byStarters(603), 1);
         Checks.due("604", z.byStarters(604), 0);
+    }
+
+    /** Four of a suit, asked as a HAND: a flush without the starter's suit, and crib is 0. */
+    private static void startersOfAHand() {
+        CribbageRoom x = byLaw("fifteen 0; pair 0; run 0; nob 0", 0, 8, 24, 44);
+        Checks.due("a flush of four by all, of five by nine", x.byStarters(4), 48);
+        Checks.due("of five", x.byStarters(5), 9);
+        Checks.due("the lowest of suit 0", x.bestStarter(0), 4);
+        Checks.due("5", x.bestStarter(1), 5);
+        CribbageRoom y = byLaw(NOTHING + "; pair 7 if crib=0; pair 9 if crib=1; pair 11 if crib=0-1", 0, 1, 26, 39);
+        Checks.due("one pair as a hand", y.byStarters(7), 48);
+        Checks.due("two pairs: of 6 and 9, too; three aces", y.byStarters(8), 2 + 3 + 3);
+        Checks.due("three pairs at most", y.bestStarter(1), 21);
+        Checks.due("the third ace", y.bestStarter(0), 2);
     }
 
     private static void bestStarterTheLowest() {
@@ -652,6 +697,15 @@ public final class CountTest {
         // Two or three kings kept are told by any starter: 3, 9 and 3 of the fours.
         Checks.due("the lowest", last.ask(0), 1);
         Checks.due("nine count alike", last.ask(1), 9);
+        CribbageRoom first = byLaw(NOTHING, 1, 2, 3, 4, 5, 51);
+        Checks.due("0 is not held", first.ask(0), 0);
+        // 14 and 1 are 15: no other starter tells whether 0 is kept.
+        CribbageRoom last51 = byLaw("pair 0; run 0; flush 0; nob 0; value 20; value 14 if rank=12 and suit=3; value 1 if rank=0", 0, 5, 10, 15, 20, 25);
+        Checks.due("51, the last of all", last51.ask(0), 51);
+        Checks.due("ten", last51.ask(1), 10);
+        CribbageRoom highest = byLaw(NOTHING + "; pair 1 if rank=12", 48, 49, 50, 0, 1, 2);
+        highest.seen(51, 1 + 2);
+        Checks.due("two kings are kept by all that can be", highest.canBe() != 0 ? highest.ask(1) : -1, 9);
         CribbageRoom z = byLaw(NOTHING + "; pair 1 if rank=0 or rank=2", 0, 5, 10, 15, 20, 25);
         // 0 kept is 10 of the fifteen, so is 10: the lowest starter of these RANKS.
         Checks.due("the lowest of two RANKS", z.ask(0), 1);

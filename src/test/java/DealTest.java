@@ -25,9 +25,11 @@ public final class DealTest {
         lineSinceCountWas0();
         oneGoesOn();
         oneForTheLast();
+        theFirstAndTheLastCard();
         nobodyWithCardsLeft();
         turnStaysWithALawToldSince();
         shownByPoneAndDealer();
+        shownByTheLawOfNow();
         pegsUpTo9999();
         pegsOfAJackUpTo9999();
         pegsOfPlaysUpTo9999();
@@ -418,6 +420,41 @@ public final class DealTest {
         Checks.due("31", z.play(23, 1), 2);
     }
 
+    /** 0, the lowest of all cards, and 51, the highest, are played as others are: seed 5 has 0, seed 4 51 for DEALER. */
+    private static void theFirstAndTheLastCard() {
+        CribbageRoom x = Checks.dealt();
+        Checks.rule(x, "bars if not rank=0 and not rank=6; " + NOTHING);
+        for (int card : new int[] {45, 46}) {
+            x.lay(card, 1);
+        }
+        x.lay(21, 0);
+        x.lay(13, 0);
+        Checks.due("7", x.play(24, 1), 0);
+        Checks.due("DEALER's, by 0 alone", x.count(6), 0);
+        Checks.due("to the end", x.toEnd(0), 1);
+        Checks.due("by 0", x.toEnd(1), 0);
+        Checks.due("0, the last", x.play(0, 0), 1);
+        Checks.due("played", x.card(0, 3), 1);
+        Checks.due("nobody's", x.count(6), -1);
+        CribbageRoom y = Checks.dealt();
+        Checks.rule(y, NOTHING);
+        y.lay(45, 1);
+        y.lay(46, 1);
+        y.lay(21, 0);
+        y.lay(13, 0);
+        y.play(24, 1);
+        Checks.due("0 is the lowest of four that are alike", y.toEnd(1), 0);
+        for (int card : new int[] {8, 9, 10}) {
+            y.play(card, y.count(6));
+        }
+        int turn = y.count(6);
+        Checks.due("with 0 left", y.play(y.toEnd(1), turn) >= 0 ? 0 : -1, 0);
+        CribbageRoom z = eightRanks("bars if not rank=12 and not rank=7; " + NOTHING);
+        Checks.due("8", z.play(29, 1), 0);
+        Checks.due("by 51", z.toEnd(1), 51);
+        Checks.due("51, the last", z.play(51, 0), 1);
+    }
+
     private static void nobodyWithCardsLeft() {
         CribbageRoom x = laidBy("bars if not rank=6 and not rank=1");
         Checks.due("7", x.play(24, 1), 0);
@@ -465,6 +502,21 @@ public final class DealTest {
         Checks.due("nothing counts", z.show(), 0);
         Checks.due("PHASE", z.count(0), 3);
         Checks.due("once", z.show(), -3);
+    }
+
+    private static void shownByTheLawOfNow() {
+        CribbageRoom x = Rooms.played();
+        x.force(Checks.law(x, NOTHING + "; pair 9"));
+        Checks.due("by the law put in force since", x.show(), 4 * 9);
+        CribbageRoom y = Rooms.played();
+        y.terms(3, 31);
+        // Pairs 2, pairs and runs 4 and 12; the crib's 1 6 10 10 with 4 are a pair, and 31 by all five.
+        Checks.due("by the TARGET told since", y.show(), 2 + 4 + 12 + 2 + 2);
+        CribbageRoom z = Rooms.played();
+        z.force(Checks.law(z, NOTHING + "; pair deal*10+mood"));
+        z.terms(0, 3);
+        z.terms(2, 1);
+        Checks.due("by DEAL and MOOD of now", z.show(), 4 * 31);
     }
 
     // ---- PEGS ----

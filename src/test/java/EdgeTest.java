@@ -30,6 +30,7 @@ public final class EdgeTest {
         drawnOfTheLatest();
         imagesOfBoth();
         imageOfAFullRoom();
+        imageOfWhatWasSeen();
         backToANewRoom();
         countOfAll();
         countOfRefused();
@@ -566,6 +567,19 @@ public final class EdgeTest {
             Checks.due(room + ": drawn(0)", x.drawn(0), pegs[0] + 4);
             Checks.due(room + ": drawn(1)", x.drawn(1), pegs[1] + 19);
         }
+        // A LINE that is open is put aside as well: nothing of it makes a pair, a run, a length.
+        String rule = "value 5; fifteen size*10; pair 50; run 60";
+        for (int seed = 0; seed < 8; seed++) {
+            CribbageRoom open = Rooms.inPlay();
+            Checks.rule(open, rule);
+            CribbageRoom none = Checks.dealt();
+            Checks.rule(none, rule);
+            Checks.due("a line of three open, rubbers(" + seed + ", 1)", open.rubbers(seed, 1), none.rubbers(seed, 1));
+            open.terms(3, 5);
+            none.terms(3, 5);
+            Checks.due("by TARGET 5, the first card", open.rubbers(seed, 2), none.rubbers(seed, 2));
+            Checks.due("the line stays open", open.count(5), 3);
+        }
         CribbageRoom x = new CribbageRoom();
         Checks.rule(x, "bars if deal=1; fifteen 0; run 0; flush 0; nob 0; pair 0; pair 9 if deal=2; pair 50 if deal=2 and crib<0");
         Checks.due("nothing in the first", x.rubbers(5, 1), 0);
@@ -661,6 +675,35 @@ public final class EdgeTest {
         Checks.due("play", x.play(8, 0), 0);
         Checks.due("but what comes then", x.undo(), 2);
         Checks.due("no more", x.undo(), -3);
+    }
+
+    private static void imageOfWhatWasSeen() {
+        CribbageRoom x = new CribbageRoom();
+        Checks.hold(x, 0, 16, 17, 18, 43, 49);
+        x.seen(19, 29);
+        Checks.due("one can be", x.canBe(), 16);
+        x.image(0);
+        x.forget();
+        x.seen(16, 5);
+        x.seen(20, 999);
+        Checks.due("none can be", x.canBe(), 0);
+        x.image(1);
+        Checks.due("back(0)", x.back(0), 0);
+        Checks.due("as it was seen", x.canBe(), 16);
+        Checks.due("SEEN", x.count(9), 1);
+        x.back(1);
+        Checks.due("as it was seen then", x.canBe(), 0);
+        Checks.due("SEEN", x.count(9), 2);
+        x.forget();
+        Checks.due("all can be", x.canBe(), 32767);
+        for (int i = 0; i < 6; i++) {
+            x.seen(19, 29);
+        }
+        x.image(0);
+        x.back(1);
+        x.back(0);
+        Checks.due("six", x.count(9), 6);
+        Checks.due("each of the six", x.canBe(), 16);
     }
 
     private static void backToANewRoom() {

@@ -37,6 +37,8 @@ public final class LanguageTest {
         cutTowardsNothing();
         askedOnlyIfItMatters();
         brokenOnceAsked();
+        brokenAheadOfOthers();
+        manyTextsInOneRoom();
         Checks.end("LanguageTest");
     }
 
@@ -317,6 +319,11 @@ public final class LanguageTest {
         law("bars if " + "(not ".repeat(9) + "1=1" + ")".repeat(9), 8 + 40);
         orders("deal " + "[".repeat(8) + "1" + "]".repeat(8), -1);
         orders("deal " + "[".repeat(9) + "1" + "]".repeat(9), 13);
+        orders("lay 1 by " + "[".repeat(8) + "1" + "]".repeat(8), -1);
+        orders("lay 1 by " + "[".repeat(9) + "1" + "]".repeat(9), 17);
+        orders("play " + "[".repeat(8) + "1" + "]".repeat(8) + " by " + "[".repeat(8) + "1" + "]".repeat(8), -1);
+        orders("show if " + "(".repeat(8) + "1=1" + ")".repeat(8), -1);
+        orders("show if " + "(".repeat(9) + "1=1" + ")".repeat(9), 16);
         // The first fault is told, though the ninth bracket comes behind it.
         law("run [?" + "[".repeat(9), 5);
     }
@@ -424,6 +431,15 @@ public final class LanguageTest {
         holds("not 1=2 and 1=2", false);
         holds("not 1=2 and not 1=2", true);
         holds("not not not 1=2", true);
+        holds("not 1<2", false);
+        holds("not 2>1", false);
+        holds("not 1=1", false);
+        holds("not 2<1", true);
+        holds("not 1>2", true);
+        holds("not not 1<2", true);
+        holds("not not 2>1", true);
+        holds("not (1<2 or 1=2)", false);
+        holds("not (1=1 and 2>1)", false);
         holds("1<2", true);
         holds("2<2", false);
         holds("3<2", false);
@@ -564,5 +580,41 @@ public final class LanguageTest {
         Checks.due("not run, but no refusal", Checks.orders(x, "deal 5 if 1/0=1; deal 5 if 1=1 and 1%0=0; deal 6 if 1=2 or 1/0=0"), 0);
         Checks.due("status", x.status(), 0);
         Checks.due("stopped", x.stopped(), -1);
+    }
+
+    /** What is BROKEN is so for its own clause alone, however often it is asked. */
+    private static void brokenAheadOfOthers() {
+        String[] broken = {"1/0", "1+[2+[3+4%0]]", "1000*1000*1000*1000", "1 if 1/0=1", "1 if 1=1 and 2<1/0", "1 if not (1=2 or 1/0=1)"};
+        for (String sum : broken) {
+            CribbageRoom x = new CribbageRoom();
+            Checks.rule(x, "value " + sum + "; value 5; value " + sum + "; bars if 1/0=1; bars if rank=3; pair " + sum + "; pair 7");
+            Checks.due("behind value " + sum, x.card(0, 0), 5);
+            Checks.due("behind value " + sum, x.card(51, 0), 5);
+            Checks.due("not barred", x.card(0, 1), 0);
+            Checks.due("barred", x.card(12, 1), 1);
+            Checks.hold(x, 0, 1, 30, 40);
+            Checks.due("behind pair " + sum, x.counted(51, 0, 2), 7);
+        }
+        CribbageRoom y = new CribbageRoom();
+        Checks.due("of orders", Checks.orders(y, "lay 1/0 by 1 if 1=2; show times 20 if 1+[2+3/0]=1; deal 4+1 if phase=0; lay 45+0 by 1"), 2);
+        Checks.due("the starter of seed 5", y.count(2), 14);
+        Checks.due("45 is laid", y.card(45, 2), 2);
+    }
+
+    /** Each text is read anew, behind however many long ones. */
+    private static void manyTextsInOneRoom() {
+        CribbageRoom x = new CribbageRoom();
+        String test = "show if 1=2" + " and not (1=2)".repeat(24) + ";show if 1=2";
+        x.image(0);
+        for (int i = 0; i < 8; i++) {
+            Checks.due("fifty-two parts are too many", Checks.orders(x, test), -6);
+            Checks.due("fifty are not", Checks.orders(x, test.substring(0, test.indexOf(';'))), 0);
+            Checks.due("a law of fifty", Checks.law(x, "value 1" + "+1".repeat(49)), 0);
+            x.back(0);
+        }
+        Checks.due("orders", Checks.orders(x, "deal 5"), 1);
+        Checks.due("starter", x.count(2), 14);
+        Checks.rule(x, "value 4+5");
+        Checks.due("value", x.card(0, 0), 9);
     }
 }

@@ -18,6 +18,7 @@ public final class LawTest {
         countsInPlayWithin99();
         theLastThatHolds();
         barsThatHold();
+        dealAndMoodOfNow();
         noneInForce();
         sixLaws();
         wordsOfOrders();
@@ -96,7 +97,11 @@ public final class LawTest {
             counts("run 2 + " + WORDS[w], 1, 3, new int[] {1, 1, 7, 3, 5, 6}[w], 17, 2, 6, 10, 14);
         }
         for (int suit = 0; suit < 4; suit++) {
-            counts("flush 2 + suit", 0, 4, 2 + suit, 16 + suit, suit, 8 + suit, 24 + suit, 44 + suit);
+            counts("flush 20 + suit", 0, 4, 20 + suit, 16 + suit, suit, 8 + suit, 24 + suit, 44 + suit);
+            counts("flush 20 + suit", 1, 4, 20 + suit, 16 + suit, suit, 8 + suit, 24 + suit, 44 + suit);
+            counts("flush 20 + suit", 0, 4, 20 + suit, 16 + (suit + 1) % 4, suit, 8 + suit, 24 + suit, 44 + suit);
+            counts("flush 0; flush 5 if size=5; flush 20 if size=4", 0, 4, 5, 16 + suit, suit, 8 + suit, 24 + suit, 44 + suit);
+            counts("flush 0; flush 4 if size=4; flush 20 if size=5", 0, 4, 4, 16 + (suit + 1) % 4, suit, 8 + suit, 24 + suit, 44 + suit);
             counts("nob suit + 2", 0, 5, 2 + suit, 16 + suit, 40 + suit, 9, 24, 45);
         }
     }
@@ -271,6 +276,33 @@ public final class LawTest {
         Checks.due("one that is so ahead of a BROKEN one", holding("bars; bars if 1/0=0").card(0, 1), 1);
         Checks.due("51 alone", holding("bars if rank=12 and suit=3").card(51, 1), 1);
         Checks.due("not 50", holding("bars if rank=12 and suit=3").card(50, 1), 0);
+    }
+
+    /** What a law tells changes with DEAL, with MOOD, and back with undo() and back(). */
+    private static void dealAndMoodOfNow() {
+        for (String word : new String[] {"deal", "mood", "deal+mood", "mood+deal"}) {
+            CribbageRoom x = new CribbageRoom();
+            Checks.rule(x, "value 1+" + word + "; bars if " + word + "=5; pair " + word);
+            Checks.hold(x, 0, 1, 30, 40);
+            int what = word.startsWith("deal") ? 0 : 2;
+            x.image(0);
+            for (int n : new int[] {0, 3, 5, 9, 5}) {
+                x.terms(what, n);
+                Checks.due("value 1+" + word + " by " + n, x.card(0, 0), 1 + n);
+                Checks.due("bars by " + n, x.card(0, 1), n == 5 ? 1 : 0);
+                Checks.due("pair by " + n, x.counted(51, 0, 2), n);
+Checks.due("compared by " + n, x.compare(0, 51), x.counted(51, 0, 0));
+            }
+            x.back(0);
+            Checks.due("behind back()", x.card(0, 0), 1);
+        }
+        CribbageRoom y = new CribbageRoom();
+        Checks.rule(y, "value 1+deal");
+        Checks.due("DEAL 0", y.card(0, 0), 1);
+        y.deal(5);
+        Checks.due("DEAL 1", y.card(0, 0), 2);
+        y.undo();
+        Checks.due("DEAL 0 again", y.card(0, 0), 1);
     }
 
     private static void noneInForce() {
