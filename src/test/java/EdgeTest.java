@@ -34,6 +34,8 @@ public final class EdgeTest {
         backToANewRoom();
         countOfAll();
         countOfRefused();
+        whatIsChangedAndNoMore();
+        whatCanBeUndoneStays();
         statusOfEach();
         statusOfOthers();
         the512thCall();
@@ -793,6 +795,73 @@ public final class EdgeTest {
         int[] due = {9, 2, 7, 4, 3};
         for (int i = 0; i < 5; i++) {
             Checks.due("behind back(): count(" + (13 + i) + ")", x.count(13 + i), due[i]);
+        }
+    }
+
+    private static void changes(String room, String call, Twins.Deed deed, long answer, String... changed) {
+        Twins.changes(room, () -> Rooms.named(room), call, deed, answer, changed);
+    }
+
+    /** Each call that is not refused, at its edges: its answer, status() 0, and what it changes. */
+    private static void whatIsChangedAndNoMore() {
+        for (String room : new String[] {"a new room", "dealt", "laid"}) {
+            changes(room, "hold(0)", x -> x.hold(0), 1, "card(0, 4)", "count(8)");
+            changes(room, "hold(51)", x -> x.hold(51), 1, "card(51, 4)", "count(8)");
+            changes(room, "drop() of none", CribbageRoom::drop, 0);
+            changes(room, "seen(0, 0)", x -> x.seen(0, 0), 1, "count(9)");
+            changes(room, "seen(51, 999)", x -> x.seen(51, 999), 1, "count(9)");
+            changes(room, "forget() of none", CribbageRoom::forget, 0);
+            changes(room, "force(-1)", x -> x.force(-1), -1);
+            changes(room, "feed()", x -> x.feed(0, 0, 0, 0, 0), 20, "count(12)");
+            changes(room, "row() of 51 and 52", x -> Checks.row(x, 51, 52), 1, "card(51, 4)", "count(8)", "jokers()");
+            changes(room, "law()", x -> Checks.law(x, "bars"), 0, "count(10)");
+            changes(room, "rubbers(0, 1)", x -> x.rubbers(0, 1) < 0 ? -1 : 0, 0, "drawn(0)", "drawn(1)");
+            changes(room, "rubbers(1000000, 20)", x -> x.rubbers(1000000, 20) < 0 ? -1 : 0, 0, "drawn(0)", "drawn(1)");
+        }
+        changes("in play", "drop() of two", CribbageRoom::drop, 2, "card(9, 4)", "card(30, 4)", "count(8)");
+        changes("in play", "forget() of one", CribbageRoom::forget, 1, "count(9)");
+        changes("in play", "a law that bars 51", x -> x.force(Checks.law(x, "bars if rank=12 and suit=3")), -1, "card(51, 1)", "count(10)", "count(18)");
+        changes("in play", "back(0)", x -> x.back(0), 0, "count(11)");
+        changes("dealt", "lay(21, 0)", x -> x.lay(21, 0), 1, "card(21, 2)", "count(3)", "count(11)", "hand(0, 0)", "hand(0, 6)", "hand(0, 8)");
+        // The fourth card laid: PHASE 2, PONE's TURN.
+        Twins.Maker three = () -> {
+            CribbageRoom x = Rooms.halfLaid();
+            x.lay(0, 0);
+            return x;
+        };
+        Twins.changes("three laid", three, "lay(21, 0)", x -> x.lay(21, 0), 4, "card(21, 2)", "count(0)", "count(3)", "count(6)", "count(11)", "hand(0, 0)",
+            "hand(0, 5)", "hand(0, 8)");
+        changes("laid", "play(24, 1)", x -> x.play(24, 1), 0, "card(24, 3)", "count(4)", "count(5)", "count(6)", "count(7)", "count(11)", "hand(1, 8)");
+        changes("in play", "play(8, 0)", x -> x.play(8, 0), 0, "card(8, 3)", "count(4)", "count(5)", "count(6)", "count(7)", "count(11)", "hand(0, 8)");
+        changes("in play", "undo()", CribbageRoom::undo, 2, "card(15, 3)", "count(4)", "count(5)", "count(6)", "count(7)", "count(11)", "hand(1, 7)", "hand(1, 8)");
+        changes("played", "show()", CribbageRoom::show, 26, "count(0)", "count(11)", "hand(0, 7)", "hand(1, 7)");
+        changes("shown", "undo()", CribbageRoom::undo, 3, "count(0)", "count(11)", "hand(0, 7)", "hand(1, 7)");
+        // drop(), forget() leave status() as it was; so it is 0 ahead of them here.
+        Twins.Maker full = () -> {
+            CribbageRoom x = Rooms.full();
+            x.force(2);
+            return x;
+        };
+        Twins.changes("a full room", full, "drop() of six", CribbageRoom::drop, 6, "card(0, 4)", "card(4, 4)", "card(8, 4)", "card(13, 4)", "card(17, 4)", "card(48, 4)",
+            "count(8)");
+        Twins.changes("a full room", full, "forget() of six", CribbageRoom::forget, 6, "count(9)");
+    }
+
+    /** All calls but terms() and back() leave what can be undone; so do the refused ones of these two. */
+    private static void whatCanBeUndoneStays() {
+        Twins.Deed[] deeds = {x -> x.hold(1), CribbageRoom::drop, x -> x.seen(1, 1), CribbageRoom::forget, x -> x.force(Checks.law(x, "bars")),
+            x -> Checks.law(x, "bars ?"), x -> Checks.row(x, 1, 2), x -> Checks.orders(x, "show if 1=2"), x -> Checks.orders(x, "play 8 by 0; show"),
+            x -> x.rubbers(5, 20), x -> x.image(0), x -> x.image(1), x -> x.feed(0, 0, 0, 0, 0), x -> x.terms(0, 1000), x -> x.back(1), x -> x.deal(5),
+            x -> x.lay(0, 0), x -> x.play(0, 0), CribbageRoom::show, x -> x.toEnd(0)};
+        for (int i = 0; i < deeds.length; i++) {
+            CribbageRoom x = Rooms.inPlay();
+            deeds[i].on(x);
+            Checks.due("behind call " + i, x.count(11), 8);
+            int[] kinds = {2, 2, 2, 1, 1, 1, 1, 0};
+            for (int kind : kinds) {
+                Checks.due("undo() behind call " + i, x.undo(), kind);
+            }
+            Checks.due("none is left", x.undo(), -3);
         }
     }
 
