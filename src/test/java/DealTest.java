@@ -437,18 +437,21 @@ public final class DealTest {
         Checks.due("played", x.card(0, 3), 1);
         Checks.due("nobody's", x.count(6), -1);
         CribbageRoom y = Checks.dealt();
-        Checks.rule(y, NOTHING);
+        Checks.rule(y, "fifteen 0; run 0; flush 0; nob 0; pair 50");
         y.lay(45, 1);
         y.lay(46, 1);
         y.lay(21, 0);
         y.lay(13, 0);
-        y.play(24, 1);
-        Checks.due("0 is the lowest of four that are alike", y.toEnd(1), 0);
-        for (int card : new int[] {8, 9, 10}) {
-            y.play(card, y.count(6));
-        }
-        int turn = y.count(6);
-        Checks.due("with 0 left", y.play(y.toEnd(1), turn) >= 0 ? 0 : -1, 0);
+        Checks.due("PONE's 3", y.play(9, 1), 0);
+        Checks.due("DEALER has 0 7 8 10: a pair of threes is the best", y.toEnd(1), 8);
+        Checks.due("by 10 as well", y.play(10, 0), 50);
+        Checks.due("with 0 in the hand", y.play(24, 1), 0);
+        Checks.due("8", y.play(8, 0), 0);
+        Checks.due("4", y.play(15, 1), 0);
+        Checks.due("2", y.play(7, 0), 0);
+        Checks.due("6", y.play(23, 1), 0);
+        Checks.due("0 is left: 29 by an ace, the last", y.toEnd(1), 0);
+        Checks.due("0", y.play(0, 0), 1);
         CribbageRoom z = eightRanks("bars if not rank=12 and not rank=7; " + NOTHING);
         Checks.due("8", z.play(29, 1), 0);
         Checks.due("by 51", z.toEnd(1), 51);
