@@ -351,7 +351,6 @@ public final class RefusedTest {
         nothing(room, "count() of others", x -> x.count(-1) + x.count(23) + x.count(LEAST) + x.count(MOST));
         if (room.equals("a full room")) {
             nothing(room, "feed() of 400", x -> x.feed(1, 2, 3, 4, 5));
-            nothing(room, "forget() is none of status()'s", x -> x.status());
         }
     }
 }
